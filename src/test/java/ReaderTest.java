@@ -9,7 +9,9 @@ public final class ReaderTest {
         severalFindFaults();
         countGoesDown();
         missesTheFirstBit();
-        looseBitsAreReceived();
+        loserAtThe12thReadsOn();
+        looseFramesAreReceived();
+        oneEndsBeforeTheOther();
         Due.end();
     }
 
@@ -115,8 +117,7 @@ public final class ReaderTest {
         Due.is("and begins with the stuffed 0", y.node(2, 0), 2);
     }
 
-    /** A reader takes a frame whose 12th bit is other than a sender's: it loses there, and reads 0. */
-    private static void looseBitsAreReceived() {
+    private static void loserAtThe12thReadsOn() {
         SharedWire x = new SharedWire();
         x.want(0, true, 0x15555555, 0x77, 1);
         x.want(1, false, 0x555, 0x66, 1);
@@ -124,5 +125,68 @@ public final class ReaderTest {
         Due.is("both came", x.node(2, 5), 2);
         Due.is("the loser received the short one", Due.receivedOf(x, 0), 0x555 + " 0 1 " + 0x66);
         Due.is("the winner received the long one", Due.receivedOf(x, 1), 0x15555555 + " 1 1 " + 0x77);
+    }
+
+    /**
+     * Lets each node see what is asked for, though nobody sends: whoever would see the level
+     * instead is disturbed. The level is 0 where a reader answers, at the places given.
+     */
+    private static void show(SharedWire x, String[] views, int answer, int answer2) {
+        for (int i = 0; i < views[0].length(); i++) {
+            int level = i == answer || i == answer2 ? 0 : 1;
+            int disturbed = 0;
+            for (int node = 0; node < 4; node++) {
+                disturbed |= views[node].charAt(i) - '0' != level ? 1 << node : 0;
+            }
+            Due.is("level " + i + " of a shown line", x.step(1, disturbed), level);
+        }
+    }
+
+    private static void showTo(SharedWire x, int node, String line) {
+        String[] views = new String[4];
+        java.util.Arrays.fill(views, "1".repeat(line.length()));
+        views[node] = line;
+        show(x, views, line.length() - 9, -1);
+        Due.is("the pause comes behind a shown line", x.wire(), 3);
+        x.step(3, 0);
+    }
+
+    private static void looseFramesAreReceived() {
+        SharedWire x = new SharedWire();
+        int low = 0x2A5 << 18 | 0x15A5A;
+        showTo(x, 1, LooseLines.SHORT_12TH);
+        Due.is("the 12th of 1", Due.receivedOf(x, 1), 0x2A5 + " 0 1 " + 0xC3);
+        showTo(x, 2, LooseLines.SHORT_14TH);
+        Due.is("the 14th of 1", Due.receivedOf(x, 2), 0x2A5 + " 0 1 " + 0xC3);
+        showTo(x, 1, LooseLines.LONG_12TH);
+        Due.is("a long one, the 12th of 0", Due.receivedOf(x, 1), low + " 1 1 " + 0xC3);
+        showTo(x, 3, LooseLines.LONG_THREE);
+        Due.is("a long one with 1 1 1", Due.receivedOf(x, 3), low + " 1 1 " + 0xC3);
+        for (String line : LooseLines.MANY_BYTES) {
+            showTo(x, 0, line);
+            Due.is("more than 8 bytes are 8", Due.receivedOf(x, 0), 0x2A5 + " 0 8 " + 0x0807060504030201L);
+        }
+        Due.is("how many node 0 received", x.node(0, 5), 7);
+        Due.is("no faults", Lines.allTold(x), "1 0 0 0, 1 0 0 0, 1 0 0 0, 1 0 0 0");
+    }
+
+    private static void oneEndsBeforeTheOther() {
+        int length = Lines.FIVE.length();
+        String none = "1".repeat(length);
+        SharedWire x = new SharedWire();
+        show(x, new String[] {none, Lines.FIVE, "1111" + Lines.FIVE.substring(0, length - 4), none},
+            Lines.FIVE_ANSWER, Lines.FIVE_ANSWER + 4);
+        Due.is("node 1 has ended, node 2 not", Lines.allTold(x), "1 0 0 0, 1 0 0 0, 2 0 0 0, 1 0 0 0");
+        Due.is("node 1 alone has received", x.node(1, 5) * 10 + x.node(2, 5), 10);
+        Due.is("busy still", x.wire(), 1);
+        x.want(1, false, 0, 0, 0);
+        x.step(3, 0);
+        Due.is("nobody begins", Lines.allTold(x), "1 0 0 0, 1 0 0 0, 2 0 0 0, 1 0 0 0");
+        x.step(1, 2);
+        Due.is("node 2 ends, but node 1 has seen 0", Lines.allTold(x), "1 0 0 0, 2 0 0 0, 1 0 0 0, 1 0 0 0");
+        Due.is("both have received", x.node(1, 5) * 10 + x.node(2, 5), 11);
+        Due.is("so it is busy", x.wire(), 1);
+        x.step(6, 0);
+        Due.is("until node 1 finds a fault", Lines.allTold(x), "1 0 0 0, 1 0 1 1, 1 0 0 0, 1 0 0 0");
     }
 }
