@@ -41,6 +41,7 @@ public final class SharedWire {
     private static final int NEITHER = 1;
     private static final int READER = 2;
     private static final int SENDER = 3;
+    private static final int SENDING_FAULT = 8;
     private static final int MOST_COUNTED = 255;
 
     private static final int FAULT_STUFFING = 1;
@@ -576,7 +577,6 @@ public final class SharedWire {
 
         void switchOn() {
             on = true;
-            role = NEITHER;
             sendingCount = 0;
             receivingCount = 0;
         }
@@ -622,7 +622,7 @@ public final class SharedWire {
             if (found != 0) {
                 lastFault = found;
                 if (role == SENDER) {
-                    sendingCount += 8;
+                    sendingCount += SENDING_FAULT;
                 } else {
                     receivingCount++;
                 }

@@ -10,6 +10,7 @@ public final class NodeTest {
         joinAtRest();
         joinWhileBusy();
         joinWhileBroken();
+        joinClearsBothCounts();
         receivedThrows();
         receivedFrames();
         receivedIsTheLast();
@@ -89,6 +90,18 @@ public final class NodeTest {
         Due.is("neither", x.node(0, 0), 1);
         Due.is("then it sends", x.step(1, 0), 0);
         Due.is("a sender", x.node(0, 0), 3);
+    }
+
+    private static void joinClearsBothCounts() {
+        SharedWire x = new SharedWire();
+        x.step(7, 1);
+        x.step(17, 0);
+        Due.is("a fault as a reader", Lines.told(x, 0), "1 0 1 1");
+        x.want(0, false, 5, 0xA5, 1);
+        Lines.spoil(x, 32);
+        Due.is("32 as a sender", Lines.told(x, 0), "0 256 1 4");
+        Due.is("join(0)", Due.number(x.join(0)), 1);
+        Due.is("both counts are 0", Lines.told(x, 0), "1 0 0 4");
     }
 
     private static void receivedThrows() {

@@ -9,6 +9,7 @@ public final class WantTest {
         firstNamedIsThrown();
         order();
         sameOnesComeInTurn();
+        wantedBetweenFrames();
         dataAboveDoNotMatter();
         offNodesMayWant();
         Due.end();
@@ -107,6 +108,19 @@ public final class WantTest {
             Due.is("frame " + i + " in turn", x.received(1, 3), due[i]);
         }
         Due.is("wanted at the end", x.node(0, 3), 0);
+    }
+
+    /** What is wanted when others have been sent leaves the ones that wait as they are. */
+    private static void wantedBetweenFrames() {
+        SharedWire x = new SharedWire();
+        for (int i = 1; i <= 4; i++) {
+            x.want(0, false, i, i, 1);
+        }
+        for (int i = 1; i <= 12; i++) {
+            stepUntilReceived(x, i);
+            Due.is("frame " + i, Due.receivedOf(x, 1), i + " 0 1 " + i);
+            Due.is("a place is free behind frame " + i, x.want(0, false, i + 4, i + 4, 1), 4);
+        }
     }
 
     private static void stepUntilReceived(SharedWire x, int frames) {
