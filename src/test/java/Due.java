@@ -2,6 +2,7 @@
 final class Due {
     private static int wrong = 0;
     private static int asked = 0;
+    private static String sentence = "";
 
     /** One call that may throw; its answer counts as a number (a boolean 1 or 0). */
     interface Call {
@@ -11,19 +12,20 @@ final class Due {
     private Due() {
     }
 
+    /** The sentence of the document that the answers from here on are for. */
+    static void sentence(String text) {
+        sentence = text;
+    }
+
     static void is(String what, long got, long due) {
-        asked++;
-        if (got != due) {
-            wrong++;
-            System.out.println(what + " answered " + got + ", due is " + due);
-        }
+        is(what, "" + got, "" + due);
     }
 
     static void is(String what, String got, String due) {
         asked++;
         if (!got.equals(due)) {
             wrong++;
-            System.out.println(what + " answered " + got + ", due is " + due);
+            System.out.println("[" + sentence + "] " + what + " answered " + got + ", due is " + due);
         }
     }
 
@@ -49,11 +51,15 @@ final class Due {
 
     /** All that the calls that only look tell, so that "changes nothing" can be seen. */
     static String stateOf(SharedWire x) {
+        return wireOf(x) + " | tape " + tapeOf(x);
+    }
+
+    static String wireOf(SharedWire x) {
         StringBuilder all = new StringBuilder("wire ").append(x.wire());
         for (int node = 0; node < 4; node++) {
             all.append(" | ").append(nodeOf(x, node));
         }
-        return all.append(" | tape ").append(tapeOf(x)).toString();
+        return all.toString();
     }
 
     static String nodeOf(SharedWire x, int node) {
@@ -94,9 +100,15 @@ final class Due {
         return bits.toString();
     }
 
+    /** In few calls, so that most of an object's 512 are left to the test. */
     static void putText(SharedWire x, String bits) {
-        for (char bit : bits.toCharArray()) {
-            x.put(bit - '0', 1);
+        for (int from = 0; from < bits.length(); from += 64) {
+            int n = Math.min(64, bits.length() - from);
+            long w = 0;
+            for (int i = n - 1; i >= 0; i--) {
+                w = w << 1 | bits.charAt(from + i) - '0';
+            }
+            x.put(w, n);
         }
     }
 

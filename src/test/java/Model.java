@@ -113,12 +113,20 @@ final class Model {
      * bytes, f the frame's others, s stuffed in, a the answer, t the rest.
      */
     static String[] line(Want want) {
-        String bits = frame(want);
+        return line(frame(want), head(want).length());
+    }
+
+    /** The line of these bits and their check, whatever they are. */
+    static String lineOf(String bits) {
+        return line(bits + check(bits), 0)[0];
+    }
+
+    private static String[] line(String bits, int head) {
         String line = "";
         String kinds = "";
         for (int i = 0; i < bits.length(); i++) {
             line += bits.charAt(i);
-            kinds += i < head(want).length() - 3 ? "i" : "f";
+            kinds += i < head - 3 ? "i" : "f";
             if (endsWithFive(line) && i < bits.length() - 1) {
                 line += other(line);
                 kinds += "s";

@@ -2,8 +2,9 @@ import java.util.Random;
 
 /** All promises: long runs of calls, the same ones each time, on the program and on the model. */
 public final class ModelTest {
-    private static final int RUNS = 100;
-    private static final int CALLS = 400;
+    private static final int RUNS = 500;
+    /** Of an object's 512 calls so many are left for the look at all of it at the end. */
+    private static final int CALLS = 512 - 46 - 201;
     private static final String NONE = "throws java.util.NoSuchElementException";
 
     private final Random random;
@@ -11,6 +12,7 @@ public final class ModelTest {
     private final Model model = new Model();
     private final int run;
     private final int disturbance;
+    private int calls = 0;
 
     private ModelTest(int run) {
         this.run = run;
@@ -44,7 +46,10 @@ public final class ModelTest {
     }
 
     private void calls() {
-        for (int i = 0; i < CALLS; i++) {
+        if (run % 5 == 0) {
+            callManyFaults();
+        }
+        while (calls + 3 <= CALLS) {
             int kind = random.nextInt(10);
             if (kind < 2) {
                 callWant();
@@ -55,7 +60,25 @@ public final class ModelTest {
             } else if (random.nextInt(8) == 0) {
                 callJoin();
             }
-            compare(i);
+            calls++;
+            look();
+        }
+        compare();
+    }
+
+    /** Brings some nodes near to off, or to it: each begins so often and does not see its first bit. */
+    private void callManyFaults() {
+        int nodes = 1 + random.nextInt(15);
+        for (int node = 0; node < 4; node++) {
+            if ((nodes >> node & 1) == 1) {
+                want(node, random.nextBoolean(), 1000 + node, -1, 1);
+                calls++;
+            }
+        }
+        int times = 28 + random.nextInt(6);
+        for (int i = 0; i < times; i++) {
+            step(18, nodes);
+            calls++;
         }
     }
 
@@ -76,11 +99,11 @@ public final class ModelTest {
     }
 
     private void callWant() {
-        int node = random.nextInt(4);
         boolean isLong = random.nextBoolean();
-        int identifier = someIdentifier(isLong);
-        long data = someData();
-        int n = random.nextInt(9);
+        want(random.nextInt(4), isLong, someIdentifier(isLong), someData(), random.nextInt(9));
+    }
+
+    private void want(int node, boolean isLong, int identifier, long data, int n) {
         Model.Node who = model.nodes[node];
         String due = "throws java.lang.UnsupportedOperationException";
         if (who.wants.size() < 4) {
@@ -93,7 +116,10 @@ public final class ModelTest {
     private void callStep() {
         int steps = random.nextInt(3) == 0 ? 1 + random.nextInt(80) : 1 + random.nextInt(4);
         boolean some = disturbance > 0 && random.nextInt(disturbance * 3) == 0;
-        int disturbed = some ? 1 << random.nextInt(4) | random.nextInt(16) & random.nextInt(16) : 0;
+        step(steps, some ? 1 << random.nextInt(4) | random.nextInt(16) & random.nextInt(16) : 0);
+    }
+
+    private void step(int steps, int disturbed) {
         int level = 0;
         for (int i = 0; i < steps; i++) {
             level = model.step(i == 0 ? disturbed : 0);
@@ -163,16 +189,37 @@ public final class ModelTest {
         x.flip(i);
     }
 
-    private void compare(int call) {
-        String where = "run " + run + " behind call " + call + " ";
+    /** One call that only looks, at something that is likely to have changed. */
+    private void look() {
+        String where = "run " + run + " behind call " + calls + " ";
+        int node = random.nextInt(4);
+        switch (random.nextInt(6)) {
+            case 0:
+                Due.is(where + "wire()", x.wire(), model.wire);
+                break;
+            case 1:
+                Due.is(where + "read()", x.read(), model.read());
+                break;
+            case 2:
+                Due.is(where + "last fault", x.node(node, 6), model.nodes[node].lastFault);
+                break;
+            case 3:
+                Due.is(where + "received", x.node(node, 5), model.nodes[node].received);
+                break;
+            default:
+                Due.is(where + "role", x.node(node, 0), model.nodes[node].role());
+        }
+        calls++;
+    }
+
+    private void compare() {
+        String where = "run " + run + " at last ";
         Due.is(where + "wire()", x.wire(), model.wire);
         Due.is(where + "read()", x.read(), model.read());
         for (int node = 0; node < 4; node++) {
             Due.is(where + "node " + node, Due.nodeOf(x, node), told(model.nodes[node]));
         }
-        if (call % 20 == 0) {
-            Due.is(where + "tape", Due.tapeOf(x), model.tape);
-        }
+        Due.is(where + "tape", Due.tapeOf(x), model.tape);
     }
 
     private static String told(Model.Node node) {

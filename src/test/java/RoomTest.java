@@ -20,8 +20,9 @@ public final class RoomTest {
         Due.end();
     }
 
+    /** Six calls each time round. */
     private static void callsOf(SharedWire x) {
-        for (int i = 0; i < CALLS / 4; i++) {
+        for (int i = 0; i < CALLS / 6; i++) {
             if (x.node(i % 4, 3) < 4) {
                 x.want(i % 4, i % 2 == 0, i, -1, 8);
             }
