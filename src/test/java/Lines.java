@@ -62,14 +62,20 @@ final class Lines {
         }
     }
 
-    /** A new object in which those nodes want the frame 5 and are off. */
-    static SharedWire withOff(int nodes) {
+    /** A new object in which those nodes want the frame 5. */
+    static SharedWire wanting(int nodes) {
         SharedWire x = new SharedWire();
         for (int node = 0; node < 4; node++) {
             if ((nodes >> node & 1) == 1) {
                 x.want(node, false, 5, 0xA5, 1);
             }
         }
+        return x;
+    }
+
+    /** The same, and they are off. */
+    static SharedWire withOff(int nodes) {
+        SharedWire x = wanting(nodes);
         spoil(x, 32, nodes);
         return x;
     }

@@ -1,3 +1,5 @@
+import java.util.function.ToLongFunction;
+
 /** Promise 2: want. What is taken is looked at as it is received, not only as it is counted. */
 public final class Promise02WantTest {
     private static final int LONGEST = Lines.LONGEST_IDENTIFIER;
@@ -29,7 +31,8 @@ public final class Promise02WantTest {
         Due.is(what + ", received", Due.receivedOf(x, (node + 1) % 4), Lines.frame(isLong, identifier, data, n));
     }
 
-    private static void refuses(Class<? extends RuntimeException> due, int node, boolean isLong, int identifier, int n) {
+    private static void refuses(Class<? extends RuntimeException> due, int node, boolean isLong, int identifier,
+            int n) {
         String what = "want(" + node + ", " + isLong + ", " + identifier + ", -1, " + n + ")";
         Twins.refusedAlways(what, due, x -> x.want(node, isLong, identifier, -1, n));
     }
@@ -225,14 +228,17 @@ public final class Promise02WantTest {
         refuses(IndexOutOfBoundsException.class, -1, true, LONGEST + 1, 0);
         refuses(IndexOutOfBoundsException.class, 4, false, 0, 9);
         refuses(IndexOutOfBoundsException.class, -1, true, -1, -1);
-        Twins.refused("a node, and all are full", IndexOutOfBoundsException.class, () -> full(3),
-            x -> x.want(4, false, 0, 0, 0));
-        Twins.refused("identifier, and full", IllegalArgumentException.class, () -> full(3),
-            x -> x.want(3, false, 2048, 0, 0));
-        Twins.refused("long identifier, and full", IllegalArgumentException.class, () -> full(3),
-            x -> x.want(3, true, -1, 0, 0));
-        Twins.refused("n, and full", IllegalArgumentException.class, () -> full(3), x -> x.want(3, false, 0, 0, 9));
-        Twins.refused("n below, and full", IllegalArgumentException.class, () -> full(3), x -> x.want(3, true, 0, 0, -1));
-        Twins.refused("full alone", UnsupportedOperationException.class, () -> full(3), x -> x.want(3, false, 2047, 0, 8));
+        fullRefuses("no such node", IndexOutOfBoundsException.class, x -> x.want(4, false, 0, 0, 0));
+        fullRefuses("no such node, and all wrong", IndexOutOfBoundsException.class, x -> x.want(-1, true, -1, 0, 9));
+        fullRefuses("identifier", IllegalArgumentException.class, x -> x.want(3, false, 2048, 0, 0));
+        fullRefuses("long identifier", IllegalArgumentException.class, x -> x.want(3, true, -1, 0, 0));
+        fullRefuses("n", IllegalArgumentException.class, x -> x.want(3, false, 0, 0, 9));
+        fullRefuses("n below", IllegalArgumentException.class, x -> x.want(3, true, 0, 0, -1));
+        fullRefuses("nothing else", UnsupportedOperationException.class, x -> x.want(3, false, 2047, 0, 8));
+    }
+
+    private static void fullRefuses(String what, Class<? extends RuntimeException> due,
+            ToLongFunction<SharedWire> call) {
+        Twins.refused("full, and " + what, due, () -> full(3), call);
     }
 }

@@ -98,10 +98,7 @@ public final class Promise03StepTest {
         for (int disturbed = 0; disturbed <= 15; disturbed++) {
             SharedWire resting = new SharedWire();
             resting.step(1, disturbed);
-            SharedWire sending = new SharedWire();
-            for (int node = 0; node < 4; node++) {
-                sending.want(node, false, 5, 0xA5, 1);
-            }
+            SharedWire sending = Lines.wanting(15);
             sending.step(1, disturbed);
             for (int node = 0; node < 4; node++) {
                 int is = disturbed >> node & 1;

@@ -90,10 +90,7 @@ public final class Promise05WireTest {
         Due.sentence("Terms: with none on, the level is 1");
         SharedWire x = Lines.withOff(15);
         Due.is("at rest", wires(x, 5), "000000");
-        SharedWire y = new SharedWire();
-        for (int node = 0; node < 4; node++) {
-            y.want(node, false, 5, 0xA5, 1);
-        }
+        SharedWire y = Lines.wanting(15);
         Lines.spoil(y, 31, 15);
         y.step(1, 15);
         Due.is("all are off with this step", Lines.roles(y), "0000");

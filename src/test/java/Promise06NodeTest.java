@@ -17,7 +17,8 @@ public final class Promise06NodeTest {
     }
 
     private static void refuses(int node, int what) {
-        Twins.refusedAlways("node(" + node + ", " + what + ")", IndexOutOfBoundsException.class, x -> x.node(node, what));
+        Twins.refusedAlways("node(" + node + ", " + what + ")", IndexOutOfBoundsException.class,
+            x -> x.node(node, what));
     }
 
     private static void nodesAre0To3() {

@@ -11,6 +11,7 @@ public final class Promise08TapeTest {
         onOrOff();
         oneForTheAnswer();
         whatIsOfferedNow();
+        whatIsOfferedWhileSending();
         theFrameIsWantedStill();
         shortestAndLongest();
         Due.end();
@@ -47,13 +48,19 @@ public final class Promise08TapeTest {
     private static void whateverItHad() {
         Due.sentence("Promise 8: the tape (whatever it had) becomes the bits");
         for (int had : new int[] {0, 1, 54, 55, 56, 200}) {
-            SharedWire x = Lines.sendingFive(0);
-            Due.putText(x, "0".repeat(had));
-            Due.is("over " + had + " bits", x.tape(0), 55);
-            Due.is("over " + had + " bits", Due.tapeOf(x), Lines.FIVE);
-            Due.isThrown("bit(55), over " + had + " bits", IndexOutOfBoundsException.class, () -> x.bit(55));
-            Due.is("wipe(), over " + had + " bits", x.wipe(), 55);
+            isTapedOver("0".repeat(had));
+            isTapedOver("1".repeat(had));
         }
+    }
+
+    private static void isTapedOver(String bits) {
+        String what = "over " + bits.length() + " bits";
+        SharedWire x = Lines.sendingFive(0);
+        Due.putText(x, bits);
+        Due.is(what, x.tape(0), 55);
+        Due.is(what, Due.tapeOf(x), Lines.FIVE);
+        Due.isThrown("bit(55), " + what, IndexOutOfBoundsException.class, () -> x.bit(55));
+        Due.is("wipe(), " + what, x.wipe(), 55);
     }
 
     private static void onOrOff() {
@@ -92,6 +99,20 @@ public final class Promise08TapeTest {
         Due.is("the wire leaves the tape", Due.tapeOf(x), ZERO);
         x.tape(1);
         Due.is("then the long one", Due.tapeOf(x), Model.line(new Model.Want(true, 0, 0, 0))[0]);
+    }
+
+    /** The words are taken as they stand: what is being sent goes on, but is not offered then. */
+    private static void whatIsOfferedWhileSending() {
+        Due.sentence("Promise 8: the frame that a node offers is the first in order, while it sends another too");
+        SharedWire x = Lines.sendingFive(20);
+        x.want(0, false, 6, 0, 0);
+        x.tape(0);
+        Due.is("one that comes behind was wanted since", Due.tapeOf(x), Lines.FIVE);
+        x.want(0, false, 0, 0, 0);
+        x.tape(0);
+        Due.is("one that comes before was wanted since", Due.tapeOf(x), ZERO);
+        x.step(35, 0);
+        Due.is("what is sent has gone on", Due.receivedOf(x, 1), "5 0 1 165");
     }
 
     private static void theFrameIsWantedStill() {

@@ -17,7 +17,7 @@ public final class TermsFaultTest {
     }
 
     private static void eachByWhatItIs() {
-        Due.sentence("Terms: each of these that is a sender counts 8 more for sending, each reader 1 more for receiving");
+        Due.sentence("Terms: each that is a sender counts 8 more for sending, each reader 1 more for receiving");
         String[] due = {"0 0 0", "8 0 4"};
         String[] dueReader = {"0 0 0", "0 1 1"};
         for (int disturbed = 1; disturbed <= 15; disturbed++) {

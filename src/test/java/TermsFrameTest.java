@@ -52,7 +52,8 @@ public final class TermsFrameTest {
         Due.is("0x555", tapeOf(false, 0x555, -1, 8).substring(0, 15), "0" + "10101010101" + "000");
         Due.is("0x2AA", tapeOf(false, 0x2AA, -1, 8).substring(0, 15), "0" + "01010101010" + "000");
         Due.is("0x400", tapeOf(false, 0x400, 0, 0).substring(0, 7), "0" + "100000");
-        Due.is("1, with a 1 stuffed in twice", tapeOf(false, 1, -1, 8).substring(0, 17), "00000" + "1" + "00000" + "1" + "01000");
+        Due.is("1, with a 1 stuffed in twice", tapeOf(false, 1, -1, 8).substring(0, 17),
+            "00000" + "1" + "00000" + "1" + "01000");
         for (int bit = 0; bit < 11; bit++) {
             isAsModelled(false, 1 << bit, 0, 0);
             isAsModelled(false, 2047 ^ 1 << bit, 0, 0);
@@ -117,8 +118,10 @@ public final class TermsFrameTest {
     private static void stuffedOnesAreCounted() {
         Due.sentence("Terms: those that were stuffed in counted");
         Due.is("a stuffed 1 and three 1", tapeOf(false, 0x075, -1, 8).substring(0, 13), "00000" + "1" + "111" + "0101");
-        Due.is("a stuffed 1 and four 1", tapeOf(false, 0x07A, -1, 8).substring(0, 14), "00000" + "1" + "1111" + "0" + "010");
-        Due.is("a stuffed 0 and four 0", tapeOf(false, 0x7C2, -1, 8).substring(0, 14), "0" + "11111" + "0" + "0000" + "1" + "10");
+        Due.is("a stuffed 1 and four 1", tapeOf(false, 0x07A, -1, 8).substring(0, 14),
+            "00000" + "1" + "1111" + "0" + "010");
+        Due.is("a stuffed 0 and four 0", tapeOf(false, 0x7C2, -1, 8).substring(0, 14),
+            "0" + "11111" + "0" + "0000" + "1" + "10");
         isLine(Edge.ONE_AND_FOUR);
     }
 

@@ -57,7 +57,7 @@ public final class TermsSenderTest {
     }
 
     private static void longOnesByTheirOtherBits() {
-        Due.sentence("Terms: more than two bits were to come before the number of bytes: the last of a long identifier");
+        Due.sentence("Terms: more than two bits were to come before the number of bytes: a long identifier's last");
         int longest = Lines.LONGEST_IDENTIFIER;
         SharedWire x = new SharedWire();
         x.want(0, true, longest, 0, 0);
@@ -136,7 +136,8 @@ public final class TermsSenderTest {
             for (int i = 0; i < line[0].length(); i++) {
                 boolean loses = line[0].charAt(i) == '1' && line[1].charAt(i) == 'i';
                 String fault = line[1].charAt(i) == 'a' ? "1 8 0 5 wire 2" : "1 8 0 4 wire 2";
-                Due.is("bit " + i + " of " + edge.what(), seenOtherwise(edge.want(), i), loses ? "2 0 0 0 wire 1" : fault);
+                String due = loses ? "2 0 0 0 wire 1" : fault;
+                Due.is("bit " + i + " of " + edge.what(), seenOtherwise(edge.want(), i), due);
             }
         }
     }
@@ -196,15 +197,11 @@ public final class TermsSenderTest {
         SharedWire y = allReadersWrong();
         Due.is("there is no answer", y.step(1, 0), 1);
         Due.is("and the sender finds it first", Lines.allTold(y), "1 8 0 5, 1 0 0 0, 1 0 0 0, 1 0 0 0");
-        SharedWire two = Lines.sendingFive(0);
-        two.want(1, false, 5, 0xA5, 1);
+        SharedWire two = Lines.wanting(3);
         two.step(Lines.FIVE_ANSWER, 0);
         two.step(1, 2);
         Due.is("one of two senders does not see it", Lines.allTold(two), "1 0 0 0, 1 8 0 5, 1 0 0 0, 1 0 0 0");
-        SharedWire none = new SharedWire();
-        for (int node = 0; node < 4; node++) {
-            none.want(node, false, 5, 0xA5, 1);
-        }
+        SharedWire none = Lines.wanting(15);
         none.step(Lines.FIVE_ANSWER + 1, 0);
         Due.is("all are senders", Lines.allTold(none), "1 8 0 5, 1 8 0 5, 1 8 0 5, 1 8 0 5");
     }

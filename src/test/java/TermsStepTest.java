@@ -15,25 +15,15 @@ public final class TermsStepTest {
         Due.end();
     }
 
-    private static SharedWire wanting(int nodes) {
-        SharedWire x = new SharedWire();
-        for (int node = 0; node < 4; node++) {
-            if ((nodes >> node & 1) == 1) {
-                x.want(node, false, 5, 0xA5, 1);
-            }
-        }
-        return x;
-    }
-
     private static void theLevelIs0IfOneSends0() {
         Due.sentence("Terms: the level is 0 if one sends 0, else 1");
         for (int nodes = 0; nodes <= 15; nodes++) {
-            Due.is("those that begin: " + nodes, wanting(nodes).step(1, 0), nodes == 0 ? 1 : 0);
+            Due.is("those that begin: " + nodes, Lines.wanting(nodes).step(1, 0), nodes == 0 ? 1 : 0);
         }
         // All are senders of the same: nobody answers.
-        SharedWire all = wanting(15);
+        SharedWire all = Lines.wanting(15);
         Due.is("all send the answer's 1", Due.levels(all, 47), Lines.FIVE.substring(0, 47));
-        SharedWire three = wanting(14);
+        SharedWire three = Lines.wanting(14);
         Due.is("one reads, and answers", Due.levels(three, 55), Lines.answered(Lines.FIVE));
         Due.is("with none on", Lines.withOff(15).step(1, 0), 1);
     }
@@ -49,7 +39,7 @@ public final class TermsStepTest {
     private static void whoBeginsAtRest() {
         Due.sentence("Terms: each node that is on and offers a frame sends 0, and is a sender; all others send 1");
         for (int nodes = 0; nodes <= 15; nodes++) {
-            SharedWire x = wanting(nodes);
+            SharedWire x = Lines.wanting(nodes);
             x.step(1, 0);
             for (int node = 0; node < 4; node++) {
                 int due = nodes == 0 ? 1 : (nodes >> node & 1) == 1 ? 3 : 2;
@@ -75,14 +65,14 @@ public final class TermsStepTest {
 
     private static void aSenderThatSees1AtFirst() {
         Due.sentence("Terms: if a sender sees 1 at rest, that is fault 4 of it");
-        SharedWire x = wanting(5);
+        SharedWire x = Lines.wanting(5);
         Due.is("the level is 0", x.step(1, 1), 0);
         Due.is("one of two senders", Lines.allTold(x), "1 8 0 4, 1 0 0 0, 1 0 0 0, 1 0 0 0");
         Due.is("broken", x.wire(), 2);
-        SharedWire both = wanting(5);
+        SharedWire both = Lines.wanting(5);
         both.step(1, 5);
         Due.is("both", Lines.allTold(both), "1 8 0 4, 1 0 0 0, 1 8 0 4, 1 0 0 0");
-        SharedWire others = wanting(1);
+        SharedWire others = Lines.wanting(1);
         others.step(1, 14);
         Due.is("the others see 1: no fault", Lines.allTold(others), "3 0 0 0, 1 0 0 0, 1 0 0 0, 1 0 0 0");
     }
@@ -107,7 +97,7 @@ public final class TermsStepTest {
 
     private static void neitherSees0WhileBusy() {
         Due.sentence("Terms: a node that is on, and is neither, sends 1; if it sees 0, it is a reader");
-        SharedWire x = wanting(1);
+        SharedWire x = Lines.wanting(1);
         x.step(1, 4);
         Due.is("it has missed the first bit", Lines.roles(x), "3212");
         x.step(1, 4);
@@ -149,13 +139,19 @@ public final class TermsStepTest {
     }
 
     private static void levelsOfABrokenWire() {
-        Due.sentence("Terms: the level is 0 in the first six steps in which it is broken, and 1 in the others");
+        Due.sentence("Terms: 0 in the first six steps in which it is broken, and 1 in the others; with none on, too");
         SharedWire x = Lines.sendingFive(5);
         Due.is("in the fault's step, what was sent", x.step(1, 1), 1);
-        Due.is("broken, in the pause, and the frame anew", Due.levels(x, 14 + 3 + 6), "000000" + "11111111" + "111" + "000001");
+        Due.is("broken, in the pause, and the frame anew", Due.levels(x, 14 + 3 + 6),
+            "000000" + "11111111" + "111" + "000001");
         SharedWire alone = new SharedWire();
         alone.step(7, 8);
         Due.is("with no frame to come", Due.levels(alone, 25), "000000" + "1".repeat(19));
+        SharedWire off = Lines.wanting(15);
+        Lines.spoil(off, 31, 15);
+        off.step(1, 15);
+        Due.is("all are off now", Lines.roles(off), "0000");
+        Due.is("with none on", Due.levels(off, 25), "000000" + "1".repeat(19));
     }
 
     private static void stepsOfABrokenWire() {
