@@ -8,6 +8,7 @@ public final class TermsFrameTest {
         bitsOfALongOne();
         theNumberOfBytes();
         theBytes();
+        theCheck();
         fourAlikeAndFive();
         stuffedOnesAreCounted();
         noneBehindTheLastBitOfTheCheck();
@@ -95,6 +96,34 @@ public final class TermsFrameTest {
         for (int bit = 0; bit < 64; bit++) {
             isAsModelled(false, 0x155, 1L << bit, 8);
         }
+    }
+
+    /** The check and the ten bits behind it, of lines in which nothing is stuffed in there. */
+    private static void isCheck(boolean isLong, int identifier, long data, int n, int check) {
+        String line = tapeOf(isLong, identifier, data, n);
+        Due.is("the check of " + Lines.frame(isLong, identifier, data, n), line.substring(line.length() - 25),
+            Model.number(check, 15) + "1111111111");
+    }
+
+    private static void theCheck() {
+        Due.sentence("Terms: the check: c is 0 at first; for each bit b before it: ..");
+        String nineDigits = "";
+        for (char digit = '1'; digit <= '9'; digit++) {
+            nineDigits += Model.number(digit, 8);
+        }
+        Due.is("the model's check, as it is known of the text 123456789", Model.check(nineDigits),
+            Model.number(0x059E, 15));
+        // One 1 and seven 0: 0x4599, 0x4EAB, 0x58CF, 0x7407, 0x2D97, 0x5B2E, 0x73C5, 0x2213.
+        isCheck(false, 1, 0, 0, 0x2213);
+        isCheck(false, 2, 0, 0, 0x4426);
+        isCheck(false, 0x555, 0, 0, 0x674C);
+        isCheck(false, 2047, 0xA5, 1, 0x1EEB);
+        isCheck(false, 0x123, 0x3412, 2, 0x36B7);
+        isCheck(false, 0x2AA, 0x0123456789ABCDEFL, 8, 0x56D7);
+        isCheck(true, LONGEST, 0, 0, 0x1C88);
+        isCheck(true, 1, 0xA5, 1, 0x069C);
+        isCheck(true, 0x12345678, 0x3412, 2, 0x6689);
+        isCheck(true, 0x10000000, 0x0123456789ABCDEFL, 8, 0x1510);
     }
 
     private static void fourAlikeAndFive() {
